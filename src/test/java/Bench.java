@@ -1,0 +1,97 @@
+import java.nio.charset.StandardCharsets;
+
+/** What all tests use: a tape fed by a text, answers compared, and the exit code of a test. */
+final class Bench {
+  private final String title;
+  private int wrong = 0;
+  private int checks = 0;
+
+  Bench(String title) {
+    this.title = title;
+  }
+
+  void due(String what, long got, long want) {
+    checks++;
+    if (got == want) return;
+    wrong++;
+    System.out.println(title + ": " + what + " answered " + got + ", due is " + want);
+  }
+
+  void end() {
+    System.out.println(title + ": " + checks + " answers, " + wrong + " of them wrong");
+    if (wrong != 0) System.exit(1);
+  }
+
+  /** Something that may throw. */
+  interface Call {
+    void go();
+  }
+
+  void dueThrow(String what, Call call, Class<? extends RuntimeException> want) {
+    Class<?> got = null;
+    try {
+      call.go();
+    } catch (RuntimeException e) {
+      got = e.getClass();
+    }
+    checks++;
+    if (got == want) return;
+    wrong++;
+    System.out.println(title + ": " + what + " threw " + got + ", due is " + want);
+  }
+
+  static byte[] bytes(String text) {
+    return text.getBytes(StandardCharsets.ISO_8859_1);
+  }
+
+  private static int word(byte[] bytes, int at) {
+    int word = 0;
+    for (int i = at; i < at + 4; i++) word = (word << 8) | (i < bytes.length ? bytes[i] & 255 : 0);
+    return word;
+  }
+
+  /** Puts these bytes behind those that the tape has, of which there are that many. */
+  static void feed(CircuitCycles x, byte[] bytes, int before) {
+    for (int at = 0; at < bytes.length; at += 20) {
+      x.feed(word(bytes, at), word(bytes, at + 4), word(bytes, at + 8), word(bytes, at + 12), word(bytes, at + 16));
+      x.end(before + Math.min(at + 20, bytes.length));
+    }
+  }
+
+  static int read(CircuitCycles x, String text) {
+    feed(x, bytes(text), 0);
+    return x.read();
+  }
+
+  static int find(CircuitCycles x, String name) {
+    feed(x, bytes(name), 0);
+    return x.find();
+  }
+
+  /** A circuit that must be without a fault. */
+  CircuitCycles circuit(String text) {
+    CircuitCycles x = new CircuitCycles();
+    due("read of " + text, read(x, text), CircuitCycles.NONE);
+    due("fault of " + text, x.fault(), 0);
+    return x;
+  }
+
+  /**
+   * A text with a fault: its place is where the mark # stands, which is taken out; without a mark it
+   * is the text's end.
+   */
+  void dueFault(int code, String marked) {
+    int place = marked.indexOf('#');
+    String text = place < 0 ? marked : marked.substring(0, place) + marked.substring(place + 1);
+    CircuitCycles x = new CircuitCycles();
+    due("read of " + marked, read(x, text), place < 0 ? text.length() : place);
+    due("fault of " + marked, x.fault(), code);
+    dueThrow("step behind " + marked, x::step, IllegalStateException.class);
+  }
+
+  void dueValue(CircuitCycles x, String name, long want) {
+    int s = find(x, name);
+    due("is there " + name, s >= 0 ? 1 : 0, 1);
+    if (s >= 0) due("value of " + name, x.value(s), want);
+  }
+}
