@@ -345,7 +345,8 @@ public final class CircuitCycles {
     }
 
     void shut(int wanted) {
-      need(wanted);
+      if (kind == wanted) take();
+      else stop(misfit());
       opens--;
     }
 
@@ -602,7 +603,8 @@ public final class CircuitCycles {
     private static final int AT_OPERAND = 4;
     private static final int BEHIND_OPERAND = 5;
     private static final int BEHIND_EXP = 6;
-    private static final int DONE = 7;
+    private static final int AT_LINK = 7;
+    private static final int DONE = 8;
 
     /** Beside the tokens' kinds, which tell what else an exp or a statement may be in. */
     private static final int LINK = 200;
@@ -644,21 +646,20 @@ public final class CircuitCycles {
       depth = 0;
       state = IN_DESIGN;
       int bound = 8 * tokens.size + 8;
-      for (int n = 0; n < bound && state != DONE && tokens.faultCode == 0; n++) move(design);
-    }
-
-    private void move(Design design) {
-      switch (state) {
-        case IN_DESIGN:
-          if (design.moduleCount > 0 && tokens.kind == AT_END) state = DONE;
-          else moduleHead();
-          break;
-        case IN_ITEMS: item(); break;
-        case AT_STATEMENT: statement(); break;
-        case BEHIND_STATEMENT: behindStatement(); break;
-        case AT_OPERAND: operand(); break;
-        case BEHIND_OPERAND: behindOperand(); break;
-        default: behindExp(); break;
+      for (int n = 0; n < bound && state != DONE && tokens.faultCode == 0; n++) {
+        switch (state) {
+          case IN_DESIGN:
+            if (design.moduleCount > 0 && tokens.kind == AT_END) state = DONE;
+            else moduleHead();
+            break;
+          case IN_ITEMS: item(); break;
+          case AT_LINK: link(); break;
+          case AT_STATEMENT: statement(); break;
+          case BEHIND_STATEMENT: behindStatement(); break;
+          case AT_OPERAND: operand(); break;
+          case BEHIND_OPERAND: behindOperand(); break;
+          default: behindExp(); break;
+        }
       }
     }
 
@@ -768,7 +769,7 @@ public final class CircuitCycles {
       tokens.take();
       tokens.open('(');
       if (tokens.kind == ')') instanceEnd();
-      else link();
+      else state = AT_LINK;
     }
 
     private void instanceEnd() {
@@ -793,7 +794,7 @@ public final class CircuitCycles {
       meaning.linked(linkPlace, expPlace, alone ? tokens.extraAt(expIndex) : NONE);
       if (tokens.kind == ',') {
         tokens.take();
-        link();
+        state = AT_LINK;
       } else {
         instanceEnd();
       }
@@ -1143,7 +1144,7 @@ public final class CircuitCycles {
     private Code code;
     private int module;
     private int firstDecl;
-    int[] modules = new int[0];
+    private int[] modules = new int[0];
     private int[] decls = new int[0];
     private int[] stamps = new int[0];
     private final int[] widths = new int[STACK_ROOM];
@@ -1171,8 +1172,9 @@ public final class CircuitCycles {
       top = 0;
     }
 
-    void moduleBegins() {
+    void moduleBegins(int word) {
       module++;
+      if (word >= 0 && word < modules.length) modules[word] = module;
       firstDecl = parts.declCount;
       cost = 0;
     }
@@ -1410,8 +1412,7 @@ public final class CircuitCycles {
         checker.refuse(20, place);
         return;
       }
-      checker.moduleBegins();
-      checker.modules[word] = design.moduleCount;
+      checker.moduleBegins(word);
       design.addModule(place);
     }
 
@@ -1894,7 +1895,7 @@ public final class CircuitCycles {
     int[] args = new int[0];
     int size;
     private int[] literalWidths = new int[0];
-    long[] literals = new long[0];
+    private long[] literals = new long[0];
     private int literalCount;
 
     /** No token makes more ops than it has bytes. */
@@ -2111,7 +2112,7 @@ public final class CircuitCycles {
     int arrange(Circuit newCircuit) {
       circuit = newCircuit;
       circuit.ordered = 0;
-      Arrays.fill(numbers, 0);
+      for (int s = 0; s < circuit.signals; s++) numbers[s] = 0;
       pathSize = 0;
       openSize = 0;
       seen = 0;
@@ -2159,11 +2160,11 @@ public final class CircuitCycles {
         return circuit.sources[s];
       }
       int stop = Math.min(circuit.stops[s], code.size);
-      for (int at = cursors[s]; at < stop; at++) {
+      for (int at = Math.max(cursors[s], 0); at < stop; at++) {
         if (code.ops[at] != LOAD) continue;
         cursors[s] = at + 1;
         int needed = circuit.frames[s] + code.args[at];
-        if (needed < circuit.signals) return needed;
+        if (needed >= 0 && needed < circuit.signals) return needed;
       }
       return NONE;
     }
@@ -2269,7 +2270,7 @@ public final class CircuitCycles {
     private long run(Code code, int start, int stop, int frame) {
       int top = FLOOR;
       int end = Math.min(stop, code.size);
-      for (int at = start; at < end && top >= FLOOR && top + 1 < stack.length; at++) {
+      for (int at = Math.max(start, 0); at < end && top >= FLOOR && top + 1 < stack.length; at++) {
         int op = code.ops[at];
         int arg = code.args[at];
         if (op < UNARY) {
@@ -2278,11 +2279,12 @@ public final class CircuitCycles {
         } else if (op < CHOOSE) {
           stack[top] = one(op - UNARY, arg, stack[top]);
         } else if (op == LOAD) {
+          int s = frame + arg;
           top++;
-          stack[top] = values[frame + arg];
+          stack[top] = s >= 0 && s < values.length ? values[s] : 0;
         } else if (op == LITERAL) {
           top++;
-          stack[top] = code.literals[arg];
+          stack[top] = code.valueOf(arg);
         } else if (op == CHOOSE) {
           top -= 2;
           stack[top] = stack[top] != 0 ? stack[top + 1] : stack[top + 2];
@@ -2304,7 +2306,7 @@ public final class CircuitCycles {
     private void store(int frame, int arg, long value) {
       int s = frame + (arg >>> 14);
       int low = (arg >>> 7) & 127;
-      if (s >= nexts.length) return;
+      if (s < 0 || s >= nexts.length) return;
       long bits = mask(arg & 127) << low;
       nexts[s] = (nexts[s] & ~bits) | (value << low);
     }
