@@ -596,15 +596,16 @@ public final class CircuitCycles {
    */
   private static final class Grammar {
     // Where it is.
-    private static final int IN_DESIGN = 0;
-    private static final int IN_ITEMS = 1;
-    private static final int AT_STATEMENT = 2;
-    private static final int BEHIND_STATEMENT = 3;
-    private static final int AT_OPERAND = 4;
-    private static final int BEHIND_OPERAND = 5;
-    private static final int BEHIND_EXP = 6;
-    private static final int AT_LINK = 7;
-    private static final int DONE = 8;
+    private static final int AT_MODULE = 0;
+    private static final int BEHIND_MODULE = 1;
+    private static final int IN_ITEMS = 2;
+    private static final int AT_LINK = 3;
+    private static final int AT_STATEMENT = 4;
+    private static final int BEHIND_STATEMENT = 5;
+    private static final int AT_OPERAND = 6;
+    private static final int BEHIND_OPERAND = 7;
+    private static final int BEHIND_EXP = 8;
+    private static final int DONE = 9;
 
     /** Beside the tokens' kinds, which tell what else an exp or a statement may be in. */
     private static final int LINK = 200;
@@ -644,14 +645,12 @@ public final class CircuitCycles {
       heldTimes = roomy(heldTimes, tokens.size);
       held = 0;
       depth = 0;
-      state = IN_DESIGN;
+      state = AT_MODULE;
       int bound = 8 * tokens.size + 8;
       for (int n = 0; n < bound && state != DONE && tokens.faultCode == 0; n++) {
         switch (state) {
-          case IN_DESIGN:
-            if (design.moduleCount > 0 && tokens.kind == AT_END) state = DONE;
-            else moduleHead();
-            break;
+          case AT_MODULE: moduleHead(); break;
+          case BEHIND_MODULE: state = tokens.kind == AT_END ? DONE : AT_MODULE; break;
           case IN_ITEMS: item(); break;
           case AT_LINK: link(); break;
           case AT_STATEMENT: statement(); break;
@@ -736,7 +735,7 @@ public final class CircuitCycles {
         case ENDMODULE:
           meaning.moduleEnd();
           tokens.take();
-          state = IN_DESIGN;
+          state = BEHIND_MODULE;
           break;
         default: tokens.refuse(); break;
       }
