@@ -879,10 +879,7 @@ public final class CircuitCycles {
           meaning.armEnd();
           contexts[depth - 1] = CASE;
           break;
-        default:
-          meaning.armEnd();
-          caseEnd();
-          break;
+        default: caseEnd(); break;
       }
     }
 

@@ -76,6 +76,16 @@ public final class CircuitTest {
     CircuitCycles z = b.circuit("module m(input a$);endmodule");
     b.due("find a$", Bench.find(z, "a$"), 0);
     b.due("find a", Bench.find(z, "a"), -1);
+    // Neither the first signal of the next instance nor what the tape had behind its end is part of it.
+    CircuitCycles next = b.circuit("module s(input q);endmodule module m(input a);s u(.q(a));s v(.q(a));endmodule");
+    b.due("find q", Bench.find(next, "q"), -1);
+    b.due("find v.q", Bench.find(next, "v.q"), 2);
+    Bench.feed(next, Bench.bytes("u.q"), 0);
+    next.end(1);
+    b.due("find u", next.find(), -1);
+    Bench.feed(next, Bench.bytes("a.q"), 0);
+    next.end(1);
+    b.due("find a", next.find(), 0);
     CircuitCycles last = b.circuit("module q();endmodule module w(input w);endmodule");
     b.due("find w", Bench.find(last, "w"), 0);
   }

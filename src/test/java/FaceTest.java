@@ -8,6 +8,7 @@ public final class FaceTest {
     feedAndEnd(b);
     limits(b);
     readAndFault(b);
+    manyReads(b);
     b.end();
   }
 
@@ -65,6 +66,24 @@ public final class FaceTest {
     b.dueThrow("feed of a full tape", () -> x.feed(1, 2, 3, 4, 5), UnsupportedOperationException.class);
     b.due("read of a full tape", x.read(), -1);
     b.due("modules", x.count(0), 1);
+  }
+
+  /** What a read leaves behind is used again, and takes no room from the next one. */
+  private static void manyReads(Bench b) {
+    CircuitCycles x = new CircuitCycles();
+    String text = "module s(input i,output o);assign o=~i&1'b1;assert(o|i);endmodule module m(input a);wire p;wire q;reg r=1'b1;"
+        + "s u(.i(a),.o(p));s v(.i(p),.o(q));always@(posedge clock)case(q)1'b1:r<=1'b0;endcase endmodule";
+    for (int n = 0; n < 200; n++) {
+      b.due("read " + n, Bench.read(x, n % 3 == 1 ? text + "!" : text), n % 3 == 1 ? text.length() : -1);
+      b.due("instances " + n, x.count(1), 2);
+      b.due("q " + n, x.value(2), 0);
+      x.set(0, 1);
+      b.due("q " + n, x.value(2), 1);
+      x.step();
+      b.due("r " + n, x.value(3), 0);
+      b.due("failing " + n, x.failing(), 0);
+      x.reset();
+    }
   }
 
   private static void readAndFault(Bench b) {

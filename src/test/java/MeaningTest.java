@@ -90,6 +90,10 @@ public final class MeaningTest {
     b.dueFault(31, m + ".i(w),.o(x),.q(y));assign #x=3'd1;endmodule");
     b.dueFault(31, "module n(output o);assign o=1'b1;endmodule module m();wire w;assign w=1'b1;n u(.o(#w));endmodule");
     b.dueFault(31, "module n(output o,output p);assign o=1'b1;assign p=o;endmodule module m();wire w;n u(.o(w),.p(#w));endmodule");
+    // A number is no NAME, whatever numbers the class gives to words and numbers inside.
+    for (int k = 0; k < 24; k++) {
+      b.dueFault(25, "module n(output o);assign o=1'b1;endmodule module m();wire w;" + "assert(1'b1);".repeat(k) + "n u(.o(#1'b1));endmodule");
+    }
     // An output port may be driven by an instance as a wire may.
     b.circuit(SUB + "module m(output[2:0]a,output b);s u(.i(2'd1),.o(a),.q(b));endmodule");
   }
