@@ -23,8 +23,24 @@ public final class CircuitCycles {
   /** Sums stop here, far above every limit, so that none of them can wrap around. */
   private static final int CAP = 1 << 28;
 
-  /** At each of the 60 open places an exp keeps at most twelve operands waiting. */
+  /** At each of the 60 open places an exp keeps at most twelve operands, and as many signs, waiting. */
   private static final int STACK_ROOM = 1024;
+
+  // All rows are made with the object, as long as the longest tape can ask for: by the fewest bytes
+  // that one of its things takes, and one more for a last thing that is not told to its end.
+  private static final int TOKEN_ROOM = TAPE_LIMIT + 1;
+  /** No token makes more ops than it has bytes. */
+  private static final int CODE_ROOM = TAPE_LIMIT + 1;
+  /** A literal: 1'b0, and a byte between it and the next one. */
+  private static final int LITERAL_ROOM = TAPE_LIMIT / 5 + 1;
+  /** There are 53 words of one byte and 53 * 64 of two; others take three and one between them. */
+  private static final int WORD_ROOM = 53 + 53 * 64 + TAPE_LIMIT / 4 + 1;
+  /** A module: module a();endmodule */
+  private static final int MODULE_ROOM = TAPE_LIMIT / 20 + 1;
+  /** A piece of code that is run: assert(a); */
+  private static final int PIECE_ROOM = TAPE_LIMIT / 10 + 1;
+  /** A declaration: reg a; an instance: a b(); a link: .a(b), */
+  private static final int PART_ROOM = TAPE_LIMIT / 6 + 1;
 
   // Kinds of tokens. A sign of one byte has that byte as its kind; an operator's kind is its op, too.
   private static final int STOPPED = -1;
@@ -89,7 +105,6 @@ public final class CircuitCycles {
   private static final int COST = 4;
   private static final int SUMS = 5;
 
-  private byte[] tape;
   private int length;
   private int faultCode;
   private final Tokens tokens;
@@ -98,24 +113,24 @@ public final class CircuitCycles {
   private final Grammar grammar;
   private final Order order;
   private final Machine machine;
+  private boolean stands;
+  /** The one that stands, if one does; and the one that a read makes, whose text is the tape. */
   private Circuit circuit;
   private Circuit spare;
 
   public CircuitCycles() {
-    tape = new byte[512];
     tokens = new Tokens();
     scanner = new Scanner(tokens);
     checker = new Checker(tokens);
     grammar = new Grammar(tokens, checker, new Meaning(checker));
     order = new Order();
     machine = new Machine();
-    circuit = null;
+    circuit = new Circuit();
     spare = new Circuit();
   }
 
   public int feed(int a, int b, int c, int d, int e) throws UnsupportedOperationException {
     if (length + FEED_BYTES > TAPE_LIMIT) throw new UnsupportedOperationException();
-    if (length + FEED_BYTES > tape.length) tape = Arrays.copyOf(tape, Math.min(TAPE_LIMIT, 2 * tape.length));
     append(a);
     append(b);
     append(c);
@@ -131,7 +146,7 @@ public final class CircuitCycles {
 
   public int read() {
     Design design = spare.design;
-    design.clear(tape, length);
+    design.clear(length);
     length = 0;
     scanner.scan(design);
     grammar.parse(design, scanner.words);
@@ -154,7 +169,8 @@ public final class CircuitCycles {
     if (faultCode != 0) return place;
     Circuit old = circuit;
     circuit = spare;
-    spare = old == null ? new Circuit() : old;
+    spare = old;
+    stands = true;
     machine.restart(circuit);
     return NONE;
   }
@@ -164,7 +180,7 @@ public final class CircuitCycles {
   }
 
   public int count(int what) throws IllegalStateException, IllegalArgumentException {
-    if (circuit == null) throw new IllegalStateException();
+    if (!stands) throw new IllegalStateException();
     Design design = circuit.design;
     switch (what) {
       case 0: return design.moduleCount;
@@ -179,15 +195,15 @@ public final class CircuitCycles {
   }
 
   public int find() throws IllegalStateException {
-    if (circuit == null) throw new IllegalStateException();
-    int found = circuit.seek(tape, length);
+    if (!stands) throw new IllegalStateException();
+    int found = circuit.seek(spare.design.text, length);
     length = 0;
     return found;
   }
 
   public int signal(int s, int what)
       throws IllegalStateException, IndexOutOfBoundsException, IllegalArgumentException {
-    if (circuit == null) throw new IllegalStateException();
+    if (!stands) throw new IllegalStateException();
     if (s < 0 || s >= circuit.signals) throw new IndexOutOfBoundsException();
     switch (what) {
       case 0: return circuit.widthOf(s);
@@ -198,13 +214,13 @@ public final class CircuitCycles {
   }
 
   public void reset() throws IllegalStateException {
-    if (circuit == null) throw new IllegalStateException();
+    if (!stands) throw new IllegalStateException();
     machine.restart(circuit);
   }
 
   public void set(int s, int value)
       throws IllegalStateException, IndexOutOfBoundsException, IllegalArgumentException {
-    if (circuit == null) throw new IllegalStateException();
+    if (!stands) throw new IllegalStateException();
     if (s < 0 || s >= circuit.signals) throw new IndexOutOfBoundsException();
     if (circuit.sortOf(s) != SORT_INPUT) throw new IllegalArgumentException();
     if (value < 0 || value > mask(circuit.widthOf(s))) throw new IllegalArgumentException();
@@ -212,31 +228,27 @@ public final class CircuitCycles {
   }
 
   public int step() throws IllegalStateException {
-    if (circuit == null) throw new IllegalStateException();
+    if (!stands) throw new IllegalStateException();
     return machine.advance(circuit);
   }
 
   public long value(int s) throws IllegalStateException, IndexOutOfBoundsException {
-    if (circuit == null) throw new IllegalStateException();
+    if (!stands) throw new IllegalStateException();
     if (s < 0 || s >= circuit.signals) throw new IndexOutOfBoundsException();
     return machine.valueOf(circuit, s);
   }
 
   public int failing() throws IllegalStateException {
-    if (circuit == null) throw new IllegalStateException();
+    if (!stands) throw new IllegalStateException();
     return machine.unheld(circuit);
   }
 
   private void append(int word) {
+    byte[] tape = spare.design.text;
     for (int shift = 24; shift >= 0 && length < tape.length; shift -= 8) {
       tape[length] = (byte) (word >>> shift);
       length++;
     }
-  }
-
-  /** A row of at least that room; what an older row held is not needed any more. */
-  private static int[] roomy(int[] row, int room) {
-    return row.length >= room ? row : new int[Math.max(room, 2 * row.length)];
   }
 
   private static int capped(int sum, int more) {
@@ -262,9 +274,8 @@ public final class CircuitCycles {
 
   /** The row of tokens, and the one at hand: all faults 1, 2 and 3 are met here. */
   private static final class Tokens {
-    private int[] kinds = new int[0];
-    private int[] places = new int[0];
-    private int[] extras = new int[0];
+    /** Of each token: its kind from bit 40 on, its place from bit 20 on, and below that its extra and 1. */
+    private final long[] row = new long[TOKEN_ROOM];
     int size;
     int index;
     int kind;
@@ -274,19 +285,14 @@ public final class CircuitCycles {
     int faultPlace;
     private int opens;
 
-    void clear(int tapeLength) {
-      kinds = roomy(kinds, tapeLength + 1);
-      places = roomy(places, tapeLength + 1);
-      extras = roomy(extras, tapeLength + 1);
+    void clear() {
       size = 0;
     }
 
     /** The extra: of a NAME its word, of a PLAIN its value, of a SIZED its literal. */
     void add(int newKind, int newPlace, int newExtra) {
-      if (size >= kinds.length || size >= places.length || size >= extras.length) return;
-      kinds[size] = newKind;
-      places[size] = newPlace;
-      extras[size] = newExtra;
+      if (size >= row.length) return;
+      row[size] = ((long) newKind << 40) | ((long) newPlace << 20) | (newExtra + 1);
       size++;
     }
 
@@ -301,9 +307,9 @@ public final class CircuitCycles {
     void take() {
       if (faultCode != 0 || index + 1 >= size) return;
       index++;
-      kind = kinds[index];
-      place = places[index];
-      extra = extras[index];
+      kind = kindAt(index);
+      place = (int) (row[index] >>> 20) & 0xfffff;
+      extra = extraAt(index);
     }
 
     /** Behind a fault the token at hand is of a kind that nothing asks for. */
@@ -355,12 +361,12 @@ public final class CircuitCycles {
       opens--;
     }
 
-    boolean isNameAt(int at) {
-      return at >= 0 && at < size && kinds[at] == NAME;
+    int kindAt(int at) {
+      return at >= 0 && at < size ? (int) (row[at] >>> 40) : NONE;
     }
 
     int extraAt(int at) {
-      return at >= 0 && at < size ? extras[at] : NONE;
+      return at >= 0 && at < size ? ((int) row[at] & 0xfffff) - 1 : NONE;
     }
   }
 
@@ -374,10 +380,9 @@ public final class CircuitCycles {
     private int length;
     private Code code;
     private final int[] heads = new int[HEADS];
-    private int[] nexts = new int[0];
-    private int[] wordStarts = new int[0];
-    private int[] wordStops = new int[0];
-    private int[] wordKinds = new int[0];
+    private final int[] nexts = new int[WORD_ROOM];
+    private final int[] wordStarts = new int[WORD_ROOM];
+    private final int[] wordKinds = new int[WORD_ROOM];
     int words;
 
     Scanner(Tokens tokens) {
@@ -388,8 +393,9 @@ public final class CircuitCycles {
       text = design.text;
       length = Math.min(design.length, text.length);
       code = design.code;
-      tokens.clear(length);
-      clearWords();
+      tokens.clear();
+      Arrays.fill(heads, NONE);
+      words = 0;
       int at = 0;
       boolean sound = true;
       while (sound && at < length) {
@@ -399,16 +405,6 @@ public final class CircuitCycles {
         if (sound) at = behind;
       }
       tokens.add(sound ? AT_END : BAD, at, NONE);
-    }
-
-    private void clearWords() {
-      int room = length / 2 + 1;
-      nexts = roomy(nexts, room);
-      wordStarts = roomy(wordStarts, room);
-      wordStops = roomy(wordStops, room);
-      wordKinds = roomy(wordKinds, room);
-      Arrays.fill(heads, NONE);
-      words = 0;
     }
 
     private int byteAt(int at) {
@@ -484,7 +480,7 @@ public final class CircuitCycles {
     private int known(int head, int from, int to) {
       int word = heads[head];
       for (int n = 0; n < words && word != NONE; n++) {
-        if (wordStops[word] - wordStarts[word] == to - from && repeats(wordStarts[word], from, to)) return word;
+        if (repeats(wordStarts[word], from, to)) return word;
         word = nexts[word];
       }
       return NONE;
@@ -494,14 +490,12 @@ public final class CircuitCycles {
       for (int i = from; i < to; i++) {
         if (text[earlier + i - from] != text[i]) return false;
       }
-      return true;
+      return !continuesWord(byteAt(earlier + to - from));
     }
 
     private int added(int head, int from, int to) {
-      if (words >= nexts.length || words >= wordStarts.length) return NONE;
-      if (words >= wordStops.length || words >= wordKinds.length) return NONE;
+      if (words >= WORD_ROOM) return NONE;
       wordStarts[words] = from;
-      wordStops[words] = to;
       wordKinds[words] = kindOf(from, to);
       nexts[words] = heads[head];
       heads[head] = words;
@@ -625,9 +619,12 @@ public final class CircuitCycles {
     private int expIndex;
     private final int[] contexts = new int[OPEN_LIMIT];
     private int depth;
-    private int[] heldKinds = new int[0];
-    private int[] heldPlaces = new int[0];
-    private int[] heldTimes = new int[0];
+    // The signs of an exp that wait for more, with their places; of { n { } } also n. Signs in a row
+    // before an operand are held as one, so that the rows can be short: it has the number of the first
+    // one's token in place of the place, and how many they are in place of n.
+    private final int[] heldKinds = new int[STACK_ROOM];
+    private final int[] heldPlaces = new int[STACK_ROOM];
+    private final int[] heldTimes = new int[STACK_ROOM];
     private int held;
 
     Grammar(Tokens tokens, Checker checker, Meaning meaning) {
@@ -640,9 +637,6 @@ public final class CircuitCycles {
       tokens.start();
       checker.start(design, words);
       meaning.start(design);
-      heldKinds = roomy(heldKinds, tokens.size);
-      heldPlaces = roomy(heldPlaces, tokens.size);
-      heldTimes = roomy(heldTimes, tokens.size);
       held = 0;
       depth = 0;
       state = AT_MODULE;
@@ -788,7 +782,7 @@ public final class CircuitCycles {
     }
 
     private void linkEnd() {
-      boolean alone = tokens.index == expIndex + 1 && tokens.isNameAt(expIndex);
+      boolean alone = tokens.index == expIndex + 1 && tokens.kindAt(expIndex) == NAME;
       tokens.shut(')');
       meaning.linked(linkPlace, expPlace, alone ? tokens.extraAt(expIndex) : NONE);
       if (tokens.kind == ',') {
@@ -969,7 +963,7 @@ public final class CircuitCycles {
     }
 
     private void hold(int kind, int place, int times) {
-      if (held >= heldKinds.length || held >= heldPlaces.length || held >= heldTimes.length) return;
+      if (held >= STACK_ROOM) return;
       heldKinds[held] = kind;
       heldPlaces[held] = place;
       heldTimes[held] = times;
@@ -983,10 +977,7 @@ public final class CircuitCycles {
         case '-':
         case '&':
         case '|':
-        case '^':
-          hold(UNARY + tokens.kind, tokens.place, 0);
-          tokens.take();
-          break;
+        case '^': signsBefore(); break;
         case '(':
           hold('(', tokens.place, 0);
           tokens.open('(');
@@ -1000,6 +991,16 @@ public final class CircuitCycles {
         case NAME: named(); break;
         default: tokens.refuse(); break;
       }
+    }
+
+    private void signsBefore() {
+      int first = tokens.index;
+      for (int n = 0; n < tokens.size && isUnary(tokens.kind); n++) tokens.take();
+      hold(UNARY, first, tokens.index - first);
+    }
+
+    private static boolean isUnary(int kind) {
+      return kind == '~' || kind == '!' || kind == '-' || kind == '&' || kind == '|' || kind == '^';
     }
 
     private void brace() {
@@ -1060,8 +1061,11 @@ public final class CircuitCycles {
     private void apply(int least) {
       while (held > 0 && rankOf(heldKinds[held - 1]) >= least) {
         held--;
-        if (heldKinds[held] >= UNARY) checker.unary(heldKinds[held] - UNARY);
-        else checker.binary(heldKinds[held], heldPlaces[held]);
+        if (heldKinds[held] != UNARY) {
+          checker.binary(heldKinds[held], heldPlaces[held]);
+          continue;
+        }
+        for (int n = heldTimes[held] - 1; n >= 0; n--) checker.unary(tokens.kindAt(heldPlaces[held] + n));
       }
     }
 
@@ -1125,7 +1129,8 @@ public final class CircuitCycles {
         case '+':
         case '-': return 9;
         case '*': return 10;
-        default: return kind >= UNARY ? UNARY_RANK : 0;
+        case UNARY: return UNARY_RANK;
+        default: return 0;
       }
     }
   }
@@ -1140,9 +1145,12 @@ public final class CircuitCycles {
     private Code code;
     private int module;
     private int firstDecl;
-    private int[] modules = new int[0];
-    private int[] decls = new int[0];
-    private int[] stamps = new int[0];
+    // Of each word: the module that it names, what else it names, and in which module that is.
+    private final int[] modules = new int[WORD_ROOM];
+    private final int[] decls = new int[WORD_ROOM];
+    private final int[] stamps = new int[WORD_ROOM];
+    /** Of each declaration: its word. */
+    private final int[] names = new int[PART_ROOM];
     private final int[] widths = new int[STACK_ROOM];
     private int top;
     int expStart;
@@ -1157,11 +1165,10 @@ public final class CircuitCycles {
     void start(Design design, int words) {
       parts = design.parts;
       code = design.code;
-      modules = roomy(modules, words);
-      decls = roomy(decls, words);
-      stamps = roomy(stamps, words);
-      Arrays.fill(modules, NONE);
-      Arrays.fill(stamps, NONE);
+      for (int word = 0; word < words && word < WORD_ROOM; word++) {
+        modules[word] = NONE;
+        stamps[word] = NONE;
+      }
       module = NONE;
       faultCode = 0;
       faultPlace = NONE;
@@ -1192,14 +1199,23 @@ public final class CircuitCycles {
 
     /** The declaration of a name of this module, INSTANCE or NONE. */
     int meantBy(int word) {
-      if (word < 0 || word >= stamps.length || word >= decls.length) return NONE;
+      if (word < 0 || word >= WORD_ROOM) return NONE;
       return stamps[word] == module ? decls[word] : NONE;
     }
 
     void mean(int word, int decl) {
-      if (word < 0 || word >= stamps.length || word >= decls.length) return;
+      if (word < 0 || word >= WORD_ROOM) return;
       stamps[word] = module;
       decls[word] = decl;
+      if (decl >= 0 && decl < names.length) names[decl] = word;
+    }
+
+    /** The declaration of that name among these, or NONE. */
+    int declCalled(int word, int from, int to) {
+      for (int decl = Math.max(from, 0); decl < to && decl < names.length; decl++) {
+        if (names[decl] == word) return decl;
+      }
+      return NONE;
     }
 
     int sortOf(int decl) {
@@ -1430,7 +1446,7 @@ public final class CircuitCycles {
         return;
       }
       checker.mean(word, parts.declCount);
-      parts.addDecl(sort, word, place, rangeWidth);
+      parts.addDecl(sort, place, rangeWidth);
       rangeWidth = 1;
     }
 
@@ -1489,13 +1505,9 @@ public final class CircuitCycles {
       if (child < 0) return;
       int module = parts.childModules[child];
       int first = design.firstDecl(module);
-      port = parts.seekName(word, first, first + design.portCount(module));
-      if (port == NONE || parts.linkers[port] == child) {
-        checker.refuse(23, place);
-        return;
-      }
-      parts.linkers[port] = child;
-      parts.addLink(port - first);
+      port = checker.declCalled(word, first, first + design.portCount(module));
+      if (port == NONE || parts.isLinked(child, port - first)) checker.refuse(23, place);
+      else parts.addLink(port - first);
     }
 
     void linked(int place, int expPlace, int word) {
@@ -1560,10 +1572,10 @@ public final class CircuitCycles {
       int decl = checker.meantBy(word);
       if (checker.sortOf(decl) != SORT_REGISTER) {
         checker.refuse(22, place);
-      } else if (parts.setters[decl] != NONE && parts.setters[decl] != alwaysNumber) {
+      } else if (parts.starts[decl] != NONE && parts.starts[decl] != alwaysNumber) {
         checker.refuse(32, place);
       } else {
-        parts.setters[decl] = alwaysNumber;
+        parts.starts[decl] = alwaysNumber;
         target = decl;
         targetLow = 0;
         targetWidth = parts.widths[decl];
@@ -1650,47 +1662,34 @@ public final class CircuitCycles {
   private static final class Design {
     final Parts parts = new Parts();
     final Code code = new Code();
-    byte[] text = new byte[0];
+    final byte[] text = new byte[TAPE_LIMIT];
     int length;
     int moduleCount;
     int inputBits;
-    private int[] places = new int[0];
-    private int[] firstDecls = new int[0];
-    private int[] portCounts = new int[0];
-    private int[] firstChildren = new int[0];
-    private int[] firstPieces = new int[0];
-    private final int[][] sums = new int[SUMS][0];
+    private final int[] places = new int[MODULE_ROOM];
+    private final int[] firstDecls = new int[MODULE_ROOM];
+    private final int[] portCounts = new int[MODULE_ROOM];
+    private final int[] firstChildren = new int[MODULE_ROOM];
+    private final int[] firstPieces = new int[MODULE_ROOM];
+    private final int[][] sums = new int[SUMS][MODULE_ROOM];
     private int pieceCount;
-    int[] pieceStarts = new int[0];
-    int[] pieceStops = new int[0];
+    final int[] pieceStarts = new int[PIECE_ROOM];
+    final int[] pieceStops = new int[PIECE_ROOM];
     /** 1 of an assert, 0 of an always. */
-    int[] pieceAsserts = new int[0];
+    final int[] pieceAsserts = new int[PIECE_ROOM];
 
-    /** The rooms are by the fewest bytes that a module, an assert and so on take. */
-    void clear(byte[] tape, int tapeLength) {
-      length = Math.min(tapeLength, tape.length);
-      if (text.length < length) text = new byte[Math.max(length, 2 * text.length)];
-      System.arraycopy(tape, 0, text, 0, length);
-      int room = length / 16 + 1;
-      places = roomy(places, room);
-      firstDecls = roomy(firstDecls, room);
-      portCounts = roomy(portCounts, room);
-      firstChildren = roomy(firstChildren, room);
-      firstPieces = roomy(firstPieces, room);
-      for (int i = 0; i < SUMS; i++) sums[i] = roomy(sums[i], room);
-      int pieceRoom = length / 8 + 1;
-      pieceStarts = roomy(pieceStarts, pieceRoom);
-      pieceStops = roomy(pieceStops, pieceRoom);
-      pieceAsserts = roomy(pieceAsserts, pieceRoom);
+    /** The text stays: it is the tape that is to be read. */
+    void clear(int newLength) {
+      length = Math.min(newLength, text.length);
       moduleCount = 0;
       pieceCount = 0;
       inputBits = 0;
-      parts.clear(length);
-      code.clear(length);
+      parts.clear();
+      code.clear();
     }
 
     void addModule(int place) {
-      if (moduleCount >= places.length) return;
+      if (moduleCount >= MODULE_ROOM) return;
       places[moduleCount] = place;
       firstDecls[moduleCount] = parts.declCount;
       portCounts[moduleCount] = 0;
@@ -1706,7 +1705,7 @@ public final class CircuitCycles {
 
     /** A piece of code from there to the code's end. */
     void addPiece(boolean isAssert, int start) {
-      if (pieceCount >= pieceStarts.length) return;
+      if (pieceCount >= PIECE_ROOM) return;
       pieceStarts[pieceCount] = start;
       pieceStops[pieceCount] = code.size;
       pieceAsserts[pieceCount] = isAssert ? 1 : 0;
@@ -1797,68 +1796,47 @@ public final class CircuitCycles {
   /** All declared ports, wires and registers, and all instances with their links, as they are told. */
   private static final class Parts {
     int declCount;
-    int[] places = new int[0];
-    int[] widths = new int[0];
-    int[] sorts = new int[0];
-    long[] firsts = new long[0];
-    private int[] names = new int[0];
-    /** Of a register: the always that sets it. */
-    int[] setters = new int[0];
-    /** Of a port: the latest instance that links it. */
-    int[] linkers = new int[0];
-    /** The code that drives it; NONE while nothing does, and an empty row if a link does. */
-    int[] starts = new int[0];
-    int[] stops = new int[0];
+    final int[] places = new int[PART_ROOM];
+    final int[] widths = new int[PART_ROOM];
+    final int[] sorts = new int[PART_ROOM];
+    final long[] firsts = new long[PART_ROOM];
+    /**
+     * The code that drives it; NONE while nothing does, and an empty row if a link does. Of a
+     * register the start is the number of the always that sets it, or NONE.
+     */
+    final int[] starts = new int[PART_ROOM];
+    final int[] stops = new int[PART_ROOM];
 
     int childCount;
-    int[] childModules = new int[0];
-    int[] childPlaces = new int[0];
-    int[] firstLinks = new int[0];
+    final int[] childModules = new int[PART_ROOM];
+    final int[] childPlaces = new int[PART_ROOM];
+    final int[] firstLinks = new int[PART_ROOM];
 
     int linkCount;
-    int[] linkPorts = new int[0];
+    final int[] linkPorts = new int[PART_ROOM];
     /** Of an input the link's code; of an output the driven one's number in its module. */
-    int[] linkStarts = new int[0];
-    int[] linkStops = new int[0];
+    final int[] linkStarts = new int[PART_ROOM];
+    final int[] linkStops = new int[PART_ROOM];
 
-    void clear(int tapeLength) {
-      int room = tapeLength / 4 + 1;
-      places = roomy(places, room);
-      widths = roomy(widths, room);
-      sorts = roomy(sorts, room);
-      if (firsts.length < room) firsts = new long[Math.max(room, 2 * firsts.length)];
-      names = roomy(names, room);
-      setters = roomy(setters, room);
-      linkers = roomy(linkers, room);
-      starts = roomy(starts, room);
-      stops = roomy(stops, room);
-      childModules = roomy(childModules, room);
-      childPlaces = roomy(childPlaces, room);
-      firstLinks = roomy(firstLinks, room);
-      linkPorts = roomy(linkPorts, room);
-      linkStarts = roomy(linkStarts, room);
-      linkStops = roomy(linkStops, room);
+    void clear() {
       declCount = 0;
       childCount = 0;
       linkCount = 0;
     }
 
-    void addDecl(int sort, int word, int place, int width) {
-      if (declCount >= places.length) return;
+    void addDecl(int sort, int place, int width) {
+      if (declCount >= PART_ROOM) return;
       sorts[declCount] = sort;
-      names[declCount] = word;
       places[declCount] = place;
       widths[declCount] = width;
       firsts[declCount] = 0;
-      setters[declCount] = NONE;
-      linkers[declCount] = NONE;
       starts[declCount] = NONE;
       stops[declCount] = NONE;
       declCount++;
     }
 
     void addChild(int module) {
-      if (childCount >= childModules.length) return;
+      if (childCount >= PART_ROOM) return;
       childModules[childCount] = module;
       childPlaces[childCount] = NONE;
       firstLinks[childCount] = linkCount;
@@ -1866,7 +1844,7 @@ public final class CircuitCycles {
     }
 
     void addLink(int port) {
-      if (linkCount >= linkPorts.length) return;
+      if (linkCount >= PART_ROOM) return;
       linkPorts[linkCount] = port;
       linkStarts[linkCount] = NONE;
       linkStops[linkCount] = NONE;
@@ -1877,36 +1855,33 @@ public final class CircuitCycles {
       return child + 1 < childCount ? firstLinks[child + 1] : linkCount;
     }
 
-    int seekName(int word, int from, int to) {
-      for (int decl = from; decl < to && decl < declCount; decl++) {
-        if (names[decl] == word) return decl;
+    /** Whether a link of that instance, the latest one, already has that port. */
+    boolean isLinked(int child, int port) {
+      for (int link = firstLinks[child]; link < linkCount; link++) {
+        if (linkPorts[link] == port) return true;
       }
-      return NONE;
+      return false;
     }
   }
 
   /** The code of all exps and statements, operands before what is done with them; jumps go forward. */
   private static final class Code {
-    int[] ops = new int[0];
-    int[] args = new int[0];
+    private static final long LOWER_HALF = 0xffffffffL;
+
+    /** Each op in the upper half, with its arg in the lower one. */
+    private final long[] row = new long[CODE_ROOM];
     int size;
-    private int[] literalWidths = new int[0];
-    private long[] literals = new long[0];
+    private final int[] literalWidths = new int[LITERAL_ROOM];
+    private final long[] literals = new long[LITERAL_ROOM];
     private int literalCount;
 
-    /** No token makes more ops than it has bytes. */
-    void clear(int tapeLength) {
-      ops = roomy(ops, tapeLength + 1);
-      args = roomy(args, tapeLength + 1);
-      int room = tapeLength / 4 + 1;
-      literalWidths = roomy(literalWidths, room);
-      if (literals.length < room) literals = new long[Math.max(room, 2 * literals.length)];
+    void clear() {
       size = 0;
       literalCount = 0;
     }
 
     int literal(int width, long value) {
-      if (literalCount >= literalWidths.length || literalCount >= literals.length) return NONE;
+      if (literalCount >= LITERAL_ROOM) return NONE;
       literalWidths[literalCount] = width;
       literals[literalCount] = value;
       literalCount++;
@@ -1922,24 +1897,31 @@ public final class CircuitCycles {
     }
 
     int emit(int op, int arg) {
-      if (size >= ops.length || size >= args.length) return NONE;
-      ops[size] = op;
-      args[size] = arg;
+      if (size >= CODE_ROOM) return NONE;
+      row[size] = ((long) op << 32) | (arg & LOWER_HALF);
       size++;
       return size - 1;
     }
 
+    int opAt(int at) {
+      return at >= 0 && at < size ? (int) (row[at] >>> 32) : NONE;
+    }
+
+    int argAt(int at) {
+      return at >= 0 && at < size ? (int) row[at] : NONE;
+    }
+
     /** Makes a jump go to the code's end. */
     void aim(int jump) {
-      if (jump >= 0 && jump < size) args[jump] = size;
+      if (jump >= 0 && jump < size) row[jump] = (row[jump] & ~LOWER_HALF) | size;
     }
 
     /** The same for a chain of jumps, each of which has the one before it as its arg. */
     void aimAll(int last) {
       int jump = last;
       for (int n = 0; n < size && jump >= 0 && jump < size; n++) {
-        int before = args[jump];
-        args[jump] = size;
+        int before = argAt(jump);
+        aim(jump);
         jump = before;
       }
     }
@@ -2157,9 +2139,9 @@ public final class CircuitCycles {
       }
       int stop = Math.min(circuit.stops[s], code.size);
       for (int at = Math.max(cursors[s], 0); at < stop; at++) {
-        if (code.ops[at] != LOAD) continue;
+        if (code.opAt(at) != LOAD) continue;
         cursors[s] = at + 1;
-        int needed = circuit.frames[s] + code.args[at];
+        int needed = circuit.frames[s] + code.argAt(at);
         if (needed >= 0 && needed < circuit.signals) return needed;
       }
       return NONE;
@@ -2267,8 +2249,8 @@ public final class CircuitCycles {
       int top = FLOOR;
       int end = Math.min(stop, code.size);
       for (int at = Math.max(start, 0); at < end && top >= FLOOR && top + 1 < stack.length; at++) {
-        int op = code.ops[at];
-        int arg = code.args[at];
+        int op = code.opAt(at);
+        int arg = code.argAt(at);
         if (op < UNARY) {
           top--;
           stack[top] = two(op, arg, stack[top], stack[top + 1]);

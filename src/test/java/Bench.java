@@ -50,11 +50,16 @@ final class Bench {
     return word;
   }
 
-  /** Puts these bytes behind those that the tape has, of which there are that many. */
+  /**
+   * Puts these bytes behind those that the tape has, of which there are that many. What is not a
+   * whole feed goes first, so that a tape can be filled to its last byte.
+   */
   static void feed(CircuitCycles x, byte[] bytes, int before) {
-    for (int at = 0; at < bytes.length; at += 20) {
+    int at = 0;
+    while (at < bytes.length) {
       x.feed(word(bytes, at), word(bytes, at + 4), word(bytes, at + 8), word(bytes, at + 12), word(bytes, at + 16));
-      x.end(before + Math.min(at + 20, bytes.length));
+      at += (bytes.length - at) % 20 == 0 ? 20 : (bytes.length - at) % 20;
+      x.end(before + at);
     }
   }
 
@@ -87,6 +92,13 @@ final class Bench {
     due("read of " + marked, read(x, text), place < 0 ? text.length() : place);
     due("fault of " + marked, x.fault(), code);
     dueThrow("step behind " + marked, x::step, IllegalStateException.class);
+  }
+
+  /** The shortest names first, none of them twice and none a keyword: A, B and so on, AA and so on. */
+  static String word(int number) {
+    StringBuilder word = new StringBuilder();
+    for (int n = number; n >= 0; n = n / 26 - 1) word.append((char) ('A' + n % 26));
+    return word.reverse().toString();
   }
 
   void dueValue(CircuitCycles x, String name, long want) {
