@@ -851,8 +851,8 @@ final class Oracle {
       case "index": return yes(a.compareTo(FAR) < 0 && value(in.signals.get(e.token.text)).testBit(a.intValue()));
       case "(": return a;
       case "{": {
-        BigInteger v = BigInteger.ZERO;
-        for (Exp x : e.of) v = v.shiftLeft(x.width).or(value(x, in));
+        BigInteger v = b == null ? a : a.shiftLeft(e.of.get(1).width).or(b);
+        for (Exp x : e.of.subList(Math.min(2, e.of.size()), e.of.size())) v = v.shiftLeft(x.width).or(value(x, in));
         return v;
       }
       case "{n": {

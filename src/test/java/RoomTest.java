@@ -24,6 +24,7 @@ public final class RoomTest {
     callsMakeNothing();
     rowsStayTheSame();
     fullRows();
+    mostWaiting();
     BENCH.end();
   }
 
@@ -101,6 +102,25 @@ public final class RoomTest {
     dueTop(ports());
     BENCH.due("read of signs alone", Bench.read(new CircuitCycles(), ";".repeat(65536)), 0);
     BENCH.due("read of words alone", Bench.read(new CircuitCycles(), filledByNames("", "", " ", "") + " ".repeat(300)), 0);
+  }
+
+  /** At all 60 open places an operator of each rank waits, and signs before an operand. */
+  private static void mostWaiting() {
+    for (String last : new String[] {"(", "~(", "-~!(", "-{", "^-b[-", "!a?b^"}) {
+      String closing = last.endsWith("(") ? ")" : last.endsWith("{") ? "}" : last.endsWith("-") ? "]" : ":-a";
+      String text = "module m(input a,input b,output o);assign o="
+          + ("b||a&&b|b^a&b==a<b<<a+b*" + last).repeat(60) + "-a" + closing.repeat(60) + ";endmodule";
+      CircuitCycles x = BENCH.circuit(text);
+      Oracle o = new Oracle(text);
+      for (int n = 0; n < 4; n++) {
+        for (int s = 0; s < 2; s++) {
+          x.set(s, (n >> s) & 1);
+          o.set(s, (n >> s) & 1);
+        }
+        BENCH.due("value with " + n + " of " + text, x.value(2), o.value(o.signals.get(2)).longValue());
+      }
+      BENCH.due("cost of " + text, x.count(6), o.count(6));
+    }
   }
 
   private static final int FRONT = 65536 - 300;
