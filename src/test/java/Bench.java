@@ -5,20 +5,47 @@ final class Bench {
   private final String title;
   private int wrong = 0;
   private int checks = 0;
+  private String sentence = "";
+  private int sentences = 0;
+  private int checksBefore = 0;
 
   Bench(String title) {
     this.title = title;
   }
 
+  /** The document's own words that the answers from here on are asked by. */
+  void says(String words) {
+    leaveSentence();
+    sentence = words;
+    sentences++;
+    checksBefore = checks;
+  }
+
+  /** A sentence without an answer would be one without a test. */
+  private void leaveSentence() {
+    if (sentences > 0 && checks == checksBefore) report("nothing is asked");
+  }
+
+  private void report(String what) {
+    wrong++;
+    System.out.println(title + ": " + what);
+    if (sentences > 0) System.out.println("  the document: " + sentence);
+  }
+
   void due(String what, long got, long want) {
     checks++;
-    if (got == want) return;
-    wrong++;
-    System.out.println(title + ": " + what + " answered " + got + ", due is " + want);
+    if (got != want) report(what + " answered " + got + ", due is " + want);
+  }
+
+  void dueText(String what, String got, String want) {
+    checks++;
+    if (!got.equals(want)) report(what + " answered " + got + ", due is " + want);
   }
 
   void end() {
-    System.out.println(title + ": " + checks + " answers, " + wrong + " of them wrong");
+    leaveSentence();
+    String asked = sentences > 0 ? sentences + " sentences, " : "";
+    System.out.println(title + ": " + asked + checks + " answers, " + wrong + " of them wrong");
     if (wrong != 0) System.exit(1);
   }
 
@@ -35,9 +62,7 @@ final class Bench {
       got = e.getClass();
     }
     checks++;
-    if (got == want) return;
-    wrong++;
-    System.out.println(title + ": " + what + " threw " + got + ", due is " + want);
+    if (got != want) report(what + " threw " + got + ", due is " + want);
   }
 
   static byte[] bytes(String text) {
@@ -88,10 +113,34 @@ final class Bench {
   void dueFault(int code, String marked) {
     int place = marked.indexOf('#');
     String text = place < 0 ? marked : marked.substring(0, place) + marked.substring(place + 1);
+    dueFaultAt(code, place < 0 ? text.length() : place, text);
+  }
+
+  /** The same for a text in which # may stand. */
+  void dueFaultAt(int code, int place, String text) {
     CircuitCycles x = new CircuitCycles();
-    due("read of " + marked, read(x, text), place < 0 ? text.length() : place);
-    due("fault of " + marked, x.fault(), code);
-    dueThrow("step behind " + marked, x::step, IllegalStateException.class);
+    String told = text.length() > 300 ? text.substring(0, 140) + " .. " + text.substring(text.length() - 140) : text;
+    due("read of " + told, read(x, text), place);
+    due("fault of " + told, x.fault(), code);
+    dueThrow("step behind " + told, x::step, IllegalStateException.class);
+  }
+
+  /** Either of the two: no fault (code 0), or that one at that place. */
+  void dueRead(int code, int place, String text) {
+    if (code == 0) circuit(text);
+    else dueFaultAt(code, place, text);
+  }
+
+  /** The text, with blanks in front of its end so that it is that long. */
+  static String padded(String head, String tail, int size) {
+    return head + " ".repeat(size - head.length() - tail.length()) + tail;
+  }
+
+  /** Items of which each has its own number in place of %. */
+  static String repeated(String item, int from, int to) {
+    StringBuilder s = new StringBuilder();
+    for (int i = from; i < to; i++) s.append(item.replace("%", "" + i));
+    return s.toString();
   }
 
   /** The shortest names first, none of them twice and none a keyword: A, B and so on, AA and so on. */
