@@ -8,6 +8,8 @@ final class Bench {
   private String sentence = "";
   private int sentences = 0;
   private int checksBefore = 0;
+  /** It reads every text of a test, so that what one text leaves behind meets all the others. */
+  private final CircuitCycles used = new CircuitCycles();
 
   Bench(String title) {
     this.title = title;
@@ -101,9 +103,32 @@ final class Bench {
   /** A circuit that must be without a fault. */
   CircuitCycles circuit(String text) {
     CircuitCycles x = new CircuitCycles();
-    due("read of " + text, read(x, text), CircuitCycles.NONE);
-    due("fault of " + text, x.fault(), 0);
+    due("read of " + brief(text), read(x, text), CircuitCycles.NONE);
+    due("fault of " + brief(text), x.fault(), 0);
+    due("read by a used one of " + brief(text), read(used, text), CircuitCycles.NONE);
+    due("fault by a used one of " + brief(text), used.fault(), 0);
+    CircuitCycles fresh = new CircuitCycles();
+    read(fresh, text);
+    if (fresh.fault() == 0) dueText("all answers of a used one of " + brief(text), run(used), run(fresh));
     return x;
+  }
+
+  /** All answers of a circuit in this cycle and, with all inputs at their greatest, in the next ones. */
+  static String run(CircuitCycles x) {
+    StringBuilder s = new StringBuilder();
+    for (int what = 0; what <= 6; what++) s.append(x.count(what)).append(' ');
+    for (int n = 0; n < 3; n++) {
+      for (int i = 0; i < x.count(2); i++) {
+        s.append(x.signal(i, 0)).append(' ').append(x.signal(i, 1)).append(' ').append(x.signal(i, 2)).append(' ').append(x.value(i)).append(',');
+        if (n == 1 && x.signal(i, 1) == 0) x.set(i, (1 << x.signal(i, 0)) - 1);
+      }
+      s.append(x.failing()).append(' ').append(x.step()).append(';');
+    }
+    return s.toString();
+  }
+
+  private static String brief(String text) {
+    return text.length() > 400 ? text.substring(0, 190) + " .. " + text.substring(text.length() - 190) : text;
   }
 
   /**
@@ -119,10 +144,12 @@ final class Bench {
   /** The same for a text in which # may stand. */
   void dueFaultAt(int code, int place, String text) {
     CircuitCycles x = new CircuitCycles();
-    String told = text.length() > 300 ? text.substring(0, 140) + " .. " + text.substring(text.length() - 140) : text;
+    String told = brief(text);
     due("read of " + told, read(x, text), place);
     due("fault of " + told, x.fault(), code);
     dueThrow("step behind " + told, x::step, IllegalStateException.class);
+    due("read by a used one of " + told, read(used, text), place);
+    due("fault by a used one of " + told, used.fault(), code);
   }
 
   /** Either of the two: no fault (code 0), or that one at that place. */

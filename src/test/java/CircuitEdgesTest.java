@@ -90,6 +90,11 @@ public final class CircuitEdgesTest {
     B.due("a", x.signal(0, 1), 0);
     B.due("b", x.signal(1, 1), 1);
     B.due("u.i", x.signal(2, 1), 1);
+    CircuitCycles y = B.circuit("module e();endmodule module m(output o,input a,input b);e u();e v();assign o=a;endmodule");
+    B.due("a beside an instance of nothing", y.signal(1, 1), 0);
+    B.due("b beside an instance of nothing", y.signal(2, 1), 0);
+    y.set(2, 1);
+    B.due("b", y.value(2), 1);
     B.due("no inputs", B.circuit("module s(input i);endmodule module m();s u(.i(1'b1));endmodule").count(4), 0);
     B.dueThrow("set of u.i", () -> x.set(2, 0), IllegalArgumentException.class);
   }

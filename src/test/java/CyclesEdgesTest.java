@@ -386,6 +386,9 @@ public final class CyclesEdgesTest {
     B.due("a bit in a part", stepped("r[3:0]<=4'd15;r[1]<=1'b0;"), 0x5ad);
     B.due("a part over a bit", stepped("r[1]<=1'b0;r[3:0]<=4'd15;"), 0x5af);
     B.due("parts that overlap", stepped("r[7:0]<=8'd255;r[11:4]<=8'd0;"), 15);
+    B.due("very many", stepped("r[0]<=1'b0;".repeat(1400) + "r[1]<=1'b1;"), 0x5a6);
+    B.due("all behind a part that is not the lowest", stepped("r[11:4]<=8'd0;r<=12'hfff;"), 0xfff);
+    B.due("all behind the highest bit", stepped("r[11]<=1'b0;r<=12'h801;"), 0x801);
     B.due("behind an if", stepped("if(r[0])r[0]<=1'b0;r[0]<=1'b1;"), 0x5a5);
     B.due("in an if", stepped("r[0]<=1'b1;if(r[0])r[0]<=1'b0;"), 0x5a4);
   }
@@ -427,6 +430,8 @@ public final class CyclesEdgesTest {
     B.due("nothing at all", stepped("case(2'd3)endcase "), 0x5a5);
     B.due("an empty arm", stepped("case(2'd1)2'd1:begin end default:r<=12'd3;endcase "), 0x5a5);
     B.due("what stands behind it", stepped("case(2'd1)2'd1:r<=12'd1;endcase r[11]<=1'b1;"), 0x801);
+    B.due("behind very many", stepped("case(r)endcase ".repeat(4000) + "r<=12'd1;"), 1);
+    B.due("behind very many with arms", stepped("case(1'b1)1'b0:begin end default:begin end endcase ".repeat(1200) + "r<=12'd1;"), 1);
     String top = "64'h8000000000000000";
     B.due("the top bit", stepped("case(" + top + ")64'd0:r<=12'd1;" + top + ":r<=12'd2;endcase "), 2);
     B.due("all bits", stepped("case(64'hffffffffffffffff)64'h7fffffffffffffff:r<=12'd1;64'hffffffffffffffff:r<=12'd2;endcase "), 2);
@@ -435,6 +440,7 @@ public final class CyclesEdgesTest {
   private static void conditions() {
     for (int bit = 0; bit < 64; bit++) B.due("if bit " + bit, stepped("if(" + sized(64, power(bit)) + ")r<=12'd1;else r<=12'd2;"), 1);
     B.due("if 0", stepped("if(64'd0)r<=12'd1;else r<=12'd2;"), 2);
+    B.due("behind very many", stepped("if(1'b1)begin end ".repeat(700) + "if(1'b0)begin end ".repeat(700) + "r<=12'd1;"), 1);
     B.due("if 0 without an else", stepped("if(64'd0)r<=12'd1;"), 0x5a5);
   }
 }

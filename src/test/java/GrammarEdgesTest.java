@@ -21,6 +21,7 @@ public final class GrammarEdgesTest {
     indices();
     braces();
     misfits();
+    missing();
     tapesEnd();
     sixtyOpen();
     openTokens();
@@ -303,6 +304,21 @@ public final class GrammarEdgesTest {
     B.dueFault(2, "module m();endmodule   #( ( (");
     // It does go on, though no meaning can be given to it.
     B.dueFault(22, "module m();#x y(.z(w));endmodule");
+  }
+
+  /** Each construct without one of its tokens: the next one can't stand there. */
+  private static void missing() {
+    String[] items = {"reg[1#0]t;", "reg[#:0]t;", "reg#1:0]t;", "reg[1:0#t;", "reg #;", "reg t#reg v;", "assign #=a;", "assign w#a;", "assign w=#;", "assign w=a#endmodule",
+        "always#(posedge clock)r<=r;", "always@#posedge clock)r<=r;", "always@(#clock)r<=r;", "always@(posedge#)r<=r;", "always@(posedge clock#r<=r;",
+        "assert#a);", "assert(#);", "assert(a#;", "assert(a)#endmodule", "m#(.a(a));", "m u#.a(a));", "m u(#a(a));", "m u(.#(a));", "m u(.a#a));", "m u(.a(#));", "m u(.a(a#;",
+        "m u(.a(a)#;", "m u(.a(a))#endmodule", "m u(.a(a)#.b(a));", "m u(#,.b(a));"};
+    for (String item : items) B.dueFault(2, HEAD + item.replace("#", " #") + " endmodule");
+    String[] statements = {"if#a)r<=r;", "if(#)r<=r;", "if(a#r<=r;", "if(a)#endmodule", "case#a)endcase", "case(#)endcase", "case(a#endcase", "case(a)#:r<=r;endcase",
+        "case(a)1'b1#r<=r;endcase", "case(a)1'b1:#endcase", "case(a)1'b1:r<=r;#endmodule", "case(a)default#r<=r;endcase", "case(a)1'b1 #1'b0:r<=r;endcase", "r#r;",
+        "r<=#;", "r<=r#endmodule", "r#0]<=a;", "r[#]<=a;", "r[0#<=a;", "r[0:#]<=a;", "#<=r;", "begin r<=r;#endmodule", "#end endmodule"};
+    for (String statement : statements) B.dueFault(2, ALWAYS + statement.replace("#", " #") + " endmodule");
+    String[] exps = {"a#b", "a?#:b", "a?b#", "a?b#b", "(#)", "(a#;", "{a#b}", "{#}", "{a#;", "{2#a}}", "{2{#}}", "{2{a}#)", "{2{a#)", "r[#]", "r[a#)", "r[0#)", "r[0:#]", "r[0:0#)", "a+#", "~#"};
+    for (String exp : exps) B.dueFault(2, HEAD + "assert(" + exp.replace("#", " #") + ");endmodule");
   }
 
   private static void tapesEnd() {

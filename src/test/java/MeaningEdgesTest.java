@@ -151,8 +151,8 @@ public final class MeaningEdgesTest {
     B.circuit("module e();endmodule module m();e e();endmodule");
   }
 
-  private static final String SUB =
-      "module s(input[1:0]i,output[2:0]o,output reg q);wire w;reg r;assign w=i[0];assign o={w,i};endmodule module m(input a,input[1:0]b);wire[2:0]x;wire y;reg z;";
+  private static final String SUB = "module first(input a,input b,output c);reg d;assign c=a;endmodule "
+      + "module s(input[1:0]i,output[2:0]o,output reg q);wire w;reg r;assign w=i[0];assign o={w,i};endmodule module m(input a,input[1:0]b);wire[2:0]x;wire y;reg z;";
 
   private static void linkNames() {
     B.says("23 at a link's NAME: the module has no such port, or it was linked already.");

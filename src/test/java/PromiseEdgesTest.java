@@ -27,8 +27,10 @@ public final class PromiseEdgesTest {
     fullTape();
     end();
     endOfAll();
+    endHidesTheRest();
     readEmpties();
     readReplaces();
+    readFullTapes();
     readRefuses();
     fault();
     counts();
@@ -205,6 +207,38 @@ public final class PromiseEdgesTest {
     B.dueThrow("end(1) behind find", () -> x.end(1), ARGUMENT);
   }
 
+  /** Bytes that the tape has had behind its end are no part of it, though they would make another token. */
+  private static void endHidesTheRest() {
+    B.says("The tape keeps its first n bytes.");
+    String[][] pairs = {{"module m();endmodul", "e"}, {"module m();endmodule", "x"}, {"module m();endmodule", "$"}, {"module m();endmodule", "0"},
+        {"module m();endmodule 6553", "6"}, {"module m();endmodule 1", "'b2"}, {"module m();endmodule 1'b1", "1"}, {"module m();endmodule 1'b", "1"},
+        {"module m();endmodule/", "/"}, {"module m();endmodule/*", "*/"}, {"module m();endmodule/* *", "/"}, {"module m();endmodule//", "\nx"},
+        {"module m();endmodule //x", "\n$"}, {"module m();endmodule", " ;"}, {"module m();endmodule ", "module n();endmodule"}, {"module m(", ");endmodule"},
+        {"", "module m();endmodule"}, {"module m();assert(1'b1", ");endmodule"}, {"module m();endmodule =", "="}, {"module m();endmodule ", "/*"}};
+    for (String[] pair : pairs) {
+      CircuitCycles x = new CircuitCycles();
+      CircuitCycles y = new CircuitCycles();
+      Bench.feed(x, Bench.bytes(pair[0]), 0);
+      Bench.feed(y, Bench.bytes(pair[0] + pair[1]), 0);
+      y.end(pair[0].length());
+      B.due("read of " + pair[0] + " without " + pair[1], y.read(), x.read());
+      B.due("its fault", y.fault(), x.fault());
+      // The same behind a longer text that was read before.
+      for (int n = 0; n < 2; n++) {
+        Bench.read(y, "module m();endmodule" + "/*".repeat(n) + " ".repeat(40));
+        Bench.read(y, pair[0] + pair[1]);
+        B.due("read of " + pair[0] + " behind one with " + pair[1], Bench.read(y, pair[0]), Bench.read(x, pair[0]));
+        B.due("its fault", y.fault(), x.fault());
+      }
+    }
+    // The same of names.
+    CircuitCycles z = B.circuit(GOOD);
+    Bench.find(z, "u.q");
+    B.due("find u", Bench.find(z, "u"), -1);
+    Bench.find(z, "au.q");
+    B.due("find a", Bench.find(z, "a"), 0);
+  }
+
   private static void readEmpties() {
     B.says("The tape is read, and is empty then");
     for (String text : new String[] {GOOD, "", "$", ";", "module m();assert(z);endmodule", "module m();reg[12:0]r;endmodule", "module m();wire w;assign w=w;endmodule"}) {
@@ -243,8 +277,43 @@ public final class PromiseEdgesTest {
     B.due("p", x.value(0), 0);
     B.due("t", x.value(2), 1);
     B.due("step", x.step(), 1);
+    B.due("read of one with what is not 0 at first", Bench.read(x, "module n(input a,output o);assign o=~a;assert(o);endmodule"), -1);
+    x.set(0, 1);
+    B.due("o", x.value(1), 0);
+    B.due("failing", x.failing(), 1);
+    B.due("read of the same", Bench.read(x, "module n(input a,output o);assign o=~a;assert(o);endmodule"), -1);
+    B.due("o at first", x.value(1), 1);
+    B.due("failing at first", x.failing(), 0);
     B.due("read of the least", Bench.read(x, "module m();endmodule"), -1);
     B.dueThrow("value(0)", () -> x.value(0), INDEX);
+  }
+
+  /** Full tapes of one kind of things after the other: each leaves as much room for the next ones, be it a circuit or not. */
+  private static void readFullTapes() {
+    B.says("The tape is read, and is empty then: if it has no fault it is the circuit, in place of the one there was");
+    String links = Bench.repeated(",.p%(a)", 0, 200).substring(1);
+    String[][] fills = {{"module f(input a);", "reg %=1'b1;"}, {"module f(input a);", "assert(a);"}, {"module f(input a);assert(1'b0", "|1'b1"},
+        {"module e();endmodule module f(input a);", "e %();"}, {"module e(" + Bench.repeated(",input p%", 0, 200).substring(1) + ");endmodule module f(input a);", "e %(" + links + ");"},
+        {"module f(input a);reg r;", EDGE + "begin end "}, {"module f(input a);reg r;", EDGE + "if(a)case(a)1'b1:begin end endcase "}};
+    CircuitCycles x = new CircuitCycles();
+    for (int n = 0; n < 8 * fills.length; n++) {
+      String[] fill = fills[n / 8];
+      String top = (n / 8 == 2 ? ");" : "") + "endmodule module m(input z" + n + ");wire y;assign y=~z" + n + "&1'b1;assert(y);endmodule";
+      StringBuilder text = new StringBuilder(fill[0]);
+      for (int i = 0; text.length() + fill[1].length() + top.length() + 10 < FULL; i++) text.append(fill[1].replace("%", Bench.word(i) + n));
+      text.append(top);
+      boolean isRead = n % 3 != 2;
+      if (!isRead) text.append(";");
+      int latest = isRead ? n : n - 1;
+      B.due("read " + n, Bench.read(x, text.toString()), isRead ? -1 : text.length() - 1);
+      B.due("signals of " + n, x.count(2), 2);
+      B.due("asserts of " + n, x.count(5), 1);
+      B.due("find z" + latest, Bench.find(x, "z" + latest), 0);
+      B.due("find y of " + n, Bench.find(x, "y"), 1);
+      B.due("y of " + n, x.value(1), 1);
+      B.due("failing of " + n, x.failing(), 0);
+      B.due("step of " + n, x.step(), isRead ? 1 : 2);
+    }
   }
 
   private static void readRefuses() {
@@ -266,23 +335,9 @@ public final class PromiseEdgesTest {
       y.set(1, i % 2);
       B.due("read of " + texts[i], Bench.read(x, texts[i].replace("#", "")), Math.max(0, texts[i].indexOf('#')));
       B.due("its fault", x.fault(), codes[i]);
-      B.dueText("the circuit behind it", circuitOf(x), circuitOf(y));
+      B.dueText("the circuit behind it", Bench.run(x), Bench.run(y));
       B.dueFault(codes[i], texts[i]);
     }
-  }
-
-  /** All answers about a circuit, and about its next cycle, in which it is then. */
-  private static String circuitOf(CircuitCycles x) {
-    StringBuilder s = new StringBuilder();
-    for (int what = 0; what < 7; what++) s.append(x.count(what)).append(' ');
-    for (int n = 0; n < 2; n++) {
-      for (int i = 0; i < x.count(2); i++) {
-        s.append(x.signal(i, 0)).append(' ').append(x.signal(i, 1)).append(' ').append(x.signal(i, 2)).append(' ').append(x.value(i)).append(',');
-      }
-      s.append(x.failing()).append(';');
-      if (n == 0) s.append(x.step()).append(';');
-    }
-    return s.toString();
   }
 
   private static void fault() {
@@ -471,11 +526,20 @@ public final class PromiseEdgesTest {
     B.due("o", x.value(2), 0);
     B.due("r", x.value(4), 2);
     B.due("u.q", x.value(6), 0);
-    B.dueText("all else", circuitOf(x), circuitOf(y));
+    B.dueText("all else", Bench.run(x), Bench.run(y));
     x.set(0, 5);
     x.reset();
     B.due("a without a step", x.value(0), 0);
     B.due("step", x.step(), 1);
+    CircuitCycles not = B.circuit("module m(input a,output o);assign o=~a;assert(o);endmodule");
+    not.set(0, 1);
+    B.due("o", not.value(1), 0);
+    not.reset();
+    B.due("o behind reset", not.value(1), 1);
+    not.set(0, 1);
+    B.due("failing", not.failing(), 1);
+    not.reset();
+    B.due("failing behind reset", not.failing(), 0);
     CircuitCycles none = new CircuitCycles();
     B.dueThrow("reset without a circuit", none::reset, STATE);
     Bench.read(none, "$");

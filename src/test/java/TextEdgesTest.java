@@ -355,10 +355,12 @@ public final class TextEdgesTest {
       B.dueFault(1, assigned(8, "#" + number));
       B.dueFault(1, assigned(8, "#" + number + " 1"));
       for (int c = 0; c < 256; c++) {
-        String text = assigned(8, number + (char) c);
         int digit = c < 128 ? Character.digit(c, radix[k]) : -1;
-        if (digit >= 0) B.dueValue(B.circuit(text), "o", digit);
-        else B.dueFaultAt(1, text.indexOf("8'"), text);
+        for (int width : new int[] {8, 64}) {
+          String text = assigned(width, width + number.substring(1) + (char) c);
+          if (digit >= 0) B.dueValue(B.circuit(text), "o", digit);
+          else B.dueFaultAt(1, text.indexOf("=") + 1, text);
+        }
       }
       // The same behind another digit.
       String last = Integer.toString(radix[k] - 1, 16);
