@@ -71,6 +71,8 @@ public final class CircuitEdgesTest {
   }
 
   private static void signals() {
+    B.says("Everything has numbers from 0");
+    B.due("the only signal", Bench.find(B.circuit("module m(input a);endmodule"), "a"), 0);
     B.says("SIGNALS are, of the top, and then of each instance in turn (in the order in which they are told, each with what is in it before the"
         + " next one), its ports, wires and registers in the order in which they are declared.");
     B.due("signals of nothing", B.circuit("module m();endmodule").count(2), 0);

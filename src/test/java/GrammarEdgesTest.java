@@ -10,6 +10,8 @@ public final class GrammarEdgesTest {
     ports();
     items();
     declarations();
+    assignsAndAsserts();
+    primaries();
     links();
     statements();
     cases();
@@ -100,6 +102,33 @@ public final class GrammarEdgesTest {
     B.dueFault(2, "module m();wire #;endmodule");
     B.dueFault(2, "module m();reg a#,b;endmodule");
     B.dueFault(2, "module m();reg a=1'b1#,b;endmodule");
+  }
+
+  private static void assignsAndAsserts() {
+    B.says("| assign NAME = exp ; |");
+    B.circuit("module m(output o);assign o=1'b1;endmodule");
+    B.dueFault(2, "module m(output o);assign #=1'b1;endmodule");
+    B.dueFault(2, "module m(output o);assign o=#;endmodule");
+    B.dueFault(2, "module m(output o);assign o#;endmodule");
+    B.dueFault(2, "module m(output o);assign o#[0]=1'b1;endmodule");
+    B.dueFault(2, "module m(output o);assign o=1'b1#,o=1'b1;endmodule");
+    B.dueFault(2, "module m(output o);assign o=1'b1 #endmodule");
+    B.says("| assert ( exp ) ;");
+    B.circuit("module m();assert(1'b1);endmodule");
+    B.dueFault(2, "module m();assert#;endmodule");
+    B.dueFault(2, "module m();assert(#);endmodule");
+    B.dueFault(2, "module m();assert(1'b1#,1'b1);endmodule");
+    B.dueFault(2, "module m();assert(1'b1)#endmodule");
+  }
+
+  private static void primaries() {
+    B.says("primary = SIZED | NAME | NAME part |");
+    for (String exp : new String[] {"1'b1", "a", "r[0]", "r[1:0]"}) B.circuit(asserted(exp));
+    for (String exp : new String[] {"#", "#1", "#65535", "#)", "#reg", "#@", "a #a", "1'b1 #a", "r[0] #a", "r[0]#[0]", "a#.a"}) B.dueFault(2, asserted(exp));
+    B.says("| ( exp ) |");
+    for (String exp : new String[] {"(a)", "((a))", "(a?a:a)"}) B.circuit(asserted(exp));
+    for (String exp : new String[] {"(#)", "(a#,a)", "(a #a)", "(a)#(a)", "(a)#[0]"}) B.dueFault(2, asserted(exp));
+    B.dueFault(2, HEAD + "assert((a)#;endmodule");
   }
 
   private static void links() {

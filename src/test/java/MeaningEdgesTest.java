@@ -9,6 +9,7 @@ public final class MeaningEdgesTest {
   public static void main(String[] args) {
     moduleNames();
     declaredTwice();
+    kindsOfNames();
     usedBehind();
     usedInExp();
     usedBeforeSigns();
@@ -26,6 +27,7 @@ public final class MeaningEdgesTest {
     shifts();
     choices();
     indices();
+    allWidths();
     braces();
     repeats();
     placesOfWidths();
@@ -70,6 +72,23 @@ public final class MeaningEdgesTest {
     }
     B.circuit("module m(input x);endmodule module n(input x);endmodule module o();reg x;endmodule");
     B.circuit("module m();reg x;reg X;reg x_;reg xx;reg x$;endmodule");
+  }
+
+  /** In each pair the first one may be done with the name, the second one not. */
+  private static void kindsOfNames() {
+    B.says("A module's names are its ports, wires, registers (reg, output reg) and instances; a DRIVEN one is a wire or an output that is no register.");
+    String assign = "assign x=1'b1;";
+    String store = EDGE + "x<=1'b1;";
+    String[] declared = {"m(output x);", "m();wire x;", "m(output reg x);", "m();reg x;", "m(input x);", "m();e x();"};
+    for (int i = 0; i < declared.length; i++) {
+      String text = "module e();endmodule module " + declared[i];
+      int place = text.length();
+      B.dueRead(i < 2 ? 0 : 22, place + 7, text + assign + "endmodule");
+      B.dueRead(i == 2 || i == 3 ? 0 : 22, place + EDGE.length(), text + store + (i < 2 ? assign : "") + "endmodule");
+      B.dueRead(i < 5 ? 0 : 22, place + 7, text + "assert(x);" + (i < 2 ? assign : "") + "endmodule");
+      // What must be driven: a driven one and nothing else.
+      B.dueRead(i < 2 ? 33 : 0, text.lastIndexOf('x'), text + "endmodule");
+    }
   }
 
   private static void usedBehind() {
@@ -357,6 +376,18 @@ public final class MeaningEdgesTest {
     for (int wa : WIDTHS) {
       for (int wb : WIDTHS) dueWidth(wa, wb, 1, "a[b]");
     }
+  }
+
+  private static void allWidths() {
+    B.says("30: widths do not go together (all widths are 1 .. 64)");
+    dueExp(true, "1 1 1", "a");
+    dueExp(true, "64 1 64", "a");
+    dueExp(true, "63 1 64", "{a,b}");
+    dueExp(false, "64 1 64", "#{a,b}");
+    dueExp(false, "64 1 64", "#{0{a}}");
+    B.dueFault(30, "module m(input#[64:0]a);endmodule" + TOP);
+    B.dueFault(1, "module m();assert(#65'd1);endmodule" + TOP);
+    B.dueFault(1, "module m();assert(#0'd0);endmodule" + TOP);
   }
 
   private static void braces() {

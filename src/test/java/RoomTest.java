@@ -23,6 +23,7 @@ public final class RoomTest {
   private static boolean counting = false;
 
   public static void main(String[] args) {
+    BENCH.says("Room: all memory is the class's own, made once or bounded by the tape.");
     newObject();
     callsMakeNothing();
     counting = true;
