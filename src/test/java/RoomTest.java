@@ -106,6 +106,7 @@ public final class RoomTest {
     dueTop(filledByNames("module e();endmodule module f();", "e ", "();", "endmodule "));
     dueTop(filledByNames("", "module ", "();endmodule ", ""));
     dueTop(ports());
+    dueTop(shortestLinks());
     BENCH.due("read of signs alone", Bench.read(new CircuitCycles(), ";".repeat(65536)), 0);
     BENCH.due("read of words alone", Bench.read(new CircuitCycles(), filledByNames("", "", " ", "") + " ".repeat(300)), 0);
   }
@@ -148,6 +149,20 @@ public final class RoomTest {
     }
     String text = ports + ");endmodule module g(input a);" + links + ");f i(.A(a)" + links.substring(9) + ");";
     return filled(text, " ", "endmodule ", FRONT);
+  }
+
+  /** Links of six bytes alone: all names of one byte are ports, in as many instances as there is room for. */
+  private static String shortestLinks() {
+    String names = "abcdefghijklmnopqrstuvwxyzABCDEFGHIJKLMNOPQRSTUVWXYZ_";
+    StringBuilder text = new StringBuilder("module ee(input a");
+    StringBuilder links = new StringBuilder("(.a(a)");
+    for (char name : names.substring(1).toCharArray()) {
+      text.append(",input ").append(name);
+      links.append(",.").append(name).append("(a)");
+    }
+    text.append(");endmodule module ff(input a);");
+    for (int n = 26; text.length() + links.length() < FRONT - 30; n++) text.append("ee ").append(Bench.word(n)).append(links).append(");");
+    return filled(text.toString(), " ", "endmodule ", FRONT);
   }
 
   private static void dueTop(String front) {
