@@ -464,8 +464,8 @@ public final class CircuitCycles {
     }
 
     private int word(int at) {
-      int stop = at + 1;
-      int hash = text[at];
+      int stop = at;
+      int hash = 0;
       while (stop < length && continuesWord(text[stop])) {
         hash = 31 * hash + text[stop];
         stop++;
@@ -473,13 +473,13 @@ public final class CircuitCycles {
       int head = (hash ^ (hash >>> 8)) & (HEADS - 1);
       int word = known(head, at, stop);
       if (word == NONE) word = added(head, at, stop);
-      if (word != NONE) tokens.add(wordKinds[word], at, word);
+      if (word >= 0 && word < words) tokens.add(wordKinds[word], at, word);
       return stop;
     }
 
     private int known(int head, int from, int to) {
       int word = heads[head];
-      for (int n = 0; n < words && word != NONE; n++) {
+      for (int n = 0; n < words && word >= 0 && word < words; n++) {
         if (repeats(wordStarts[word], from, to)) return word;
         word = nexts[word];
       }
@@ -488,7 +488,7 @@ public final class CircuitCycles {
 
     private boolean repeats(int earlier, int from, int to) {
       for (int i = from; i < to; i++) {
-        if (text[earlier + i - from] != text[i]) return false;
+        if (byteAt(earlier + i - from) != byteAt(i)) return false;
       }
       return !continuesWord(byteAt(earlier + to - from));
     }
@@ -517,7 +517,7 @@ public final class CircuitCycles {
 
     private boolean spells(int start, int from, int to) {
       for (int i = from; i < to; i++) {
-        if (KEYWORDS.charAt(start + i - from) != text[i]) return false;
+        if (KEYWORDS.charAt(start + i - from) != byteAt(i)) return false;
       }
       return true;
     }
@@ -540,8 +540,9 @@ public final class CircuitCycles {
     private int decimal(int from, int to, int limit) {
       int value = 0;
       for (int i = from; i < to; i++) {
-        if (!isDigit(text[i])) return NONE;
-        value = Math.min(limit + 1, 10 * value + text[i] - '0');
+        int digit = digitOf(byteAt(i));
+        if (digit > 9) return NONE;
+        value = Math.min(limit + 1, 10 * value + digit);
       }
       return value > limit ? NONE : value;
     }
@@ -554,7 +555,7 @@ public final class CircuitCycles {
       long most = shift == 0 ? TENTH : -1L >>> shift;
       long value = 0;
       for (int i = quote + 2; i < stop; i++) {
-        int digit = digitOf(text[i]);
+        int digit = digitOf(byteAt(i));
         if (digit >= base || value < 0 || value > most) return false;
         if (shift == 0 && value == most && digit > 5) return false;
         value = value * base + digit;
@@ -844,8 +845,12 @@ public final class CircuitCycles {
 
     private void enter(int context) {
       if (depth >= contexts.length) return;
-      contexts[depth] = context;
       depth++;
+      goOnIn(context);
+    }
+
+    private void goOnIn(int context) {
+      if (depth > 0) contexts[depth - 1] = context;
     }
 
     private void behindStatement() {
@@ -871,7 +876,7 @@ public final class CircuitCycles {
         case CASE: arm(); break;
         case ARM:
           meaning.armEnd();
-          contexts[depth - 1] = CASE;
+          goOnIn(CASE);
           break;
         default: caseEnd(); break;
       }
@@ -880,7 +885,7 @@ public final class CircuitCycles {
     private void otherwise() {
       tokens.take();
       meaning.otherwise();
-      contexts[depth - 1] = ELSE;
+      goOnIn(ELSE);
       state = AT_STATEMENT;
     }
 
@@ -901,12 +906,12 @@ public final class CircuitCycles {
         }
         tokens.need(':');
         meaning.labelsEnd();
-        contexts[depth - 1] = ARM;
+        goOnIn(ARM);
         state = AT_STATEMENT;
       } else if (tokens.kind == DEFAULT) {
         tokens.take();
         tokens.need(':');
-        contexts[depth - 1] = DEFAULT;
+        goOnIn(DEFAULT);
         state = AT_STATEMENT;
       } else {
         caseEnd();
@@ -1263,7 +1268,7 @@ public final class CircuitCycles {
     void name(int word, int place) {
       if (isOff()) return;
       int decl = meantBy(word);
-      if (decl < 0) {
+      if (sortOf(decl) == NONE) {
         refuse(22, place);
         return;
       }
@@ -1472,7 +1477,7 @@ public final class CircuitCycles {
     }
 
     void assigned(int place) {
-      if (checker.isOff()) return;
+      if (checker.isOff() || checker.sortOf(target) == NONE) return;
       if (checker.expWidth() != parts.widths[target]) checker.refuse(30, place);
       parts.stops[target] = code.size;
     }
@@ -1514,8 +1519,9 @@ public final class CircuitCycles {
       if (checker.isOff()) return;
       int width = checker.expWidth();
       int link = parts.linkCount - 1;
-      if (link < 0) return;
-      boolean out = parts.sorts[port] != SORT_INPUT;
+      int sort = checker.sortOf(port);
+      if (link < 0 || sort == NONE) return;
+      boolean out = sort != SORT_INPUT;
       int decl = checker.meantBy(word);
       if (out && checker.sortOf(decl) != SORT_DRIVEN) {
         checker.refuse(25, expPlace);
@@ -1761,7 +1767,7 @@ public final class CircuitCycles {
       sums[COST][module] = cost;
       for (int child = firstChildren[module]; child < parts.childCount; child++) {
         int inside = parts.childModules[child];
-        for (int i = 0; i < SUMS; i++) sums[i][module] = capped(sums[i][module], sums[i][inside]);
+        for (int i = 0; i < SUMS; i++) sums[i][module] = capped(sums[i][module], sumOf(i, inside));
       }
     }
 
@@ -2005,12 +2011,14 @@ public final class CircuitCycles {
       int stop = parts.linksEnd(children[instance]);
       for (int link = parts.firstLinks[children[instance]]; link < stop; link++) {
         int signal = base + parts.linkPorts[link];
+        int driven = outer + parts.linkStarts[link];
+        if (!isSignal(signal)) continue;
         if (parts.sorts[decls[signal]] == SORT_INPUT) {
           starts[signal] = parts.linkStarts[link];
           stops[signal] = parts.linkStops[link];
           frames[signal] = outer;
-        } else {
-          sources[outer + parts.linkStarts[link]] = signal;
+        } else if (isSignal(driven)) {
+          sources[driven] = signal;
         }
       }
     }
